@@ -566,7 +566,6 @@ public final class ReportBlocks {
             next = 0;
             end = size;
             fault = 0;
-            faultPlace = 0;
         }
 
         boolean hasMore() {
@@ -727,9 +726,7 @@ public final class ReportBlocks {
         }
 
         void clear() {
-            category = NONE;
             count = 0;
-            size = 0;
             Arrays.fill(sizes, 0);
         }
 
@@ -903,7 +900,6 @@ public final class ReportBlocks {
         void come(int itsNumber, int itsX, int itsY) {
             number = itsNumber;
             hits = 0;
-            age = 0;
             reportedX = itsX;
             reportedY = itsY;
             update(itsX, itsY);

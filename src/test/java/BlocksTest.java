@@ -163,6 +163,13 @@ public final class BlocksTest {
         c.due("a shorter one", Checks.readBlock(x, 48, 0x80, 1, 2), 1);
         c.due("items of earlier ones are gone", x.has(0, 3, 0), 0);
         c.due("records of earlier ones are gone", x.has(1, 21, 0), BAD);
+        Checks.readBlock(x, 48, 0x40, 1, 2, 3, 4);
+        c.due("items of the first one are gone", x.has(0, 3, 0), 0);
+        c.due("items of the second one are gone", x.has(0, 1, 1), NONE);
+        Checks.readBlock(x, 48, 0x88, 1, 2, 0);
+        c.due("items of a faulty one", x.has(0, 1, 0), 0);
+        Checks.readBlock(x, 48, 0x20, 2);
+        c.due("items of a faulty one, later", x.has(0, 1, 0), 0);
     }
 
     private static void bytesOfItems() {

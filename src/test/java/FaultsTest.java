@@ -18,7 +18,10 @@ public final class FaultsTest {
 
     /** Looks at a tape of just these bytes: which fault, at which place. */
     private static void tape(String what, int fault, int place, int... bytes) {
-        ReportBlocks x = Checks.usual();
+        look(Checks.usual(), what, fault, place, bytes);
+    }
+
+    private static void look(ReportBlocks x, String what, int fault, int place, int... bytes) {
         Checks.readBlock(x, 48, 0x80, 1, 2);
         Checks.feed(x, bytes);
         c.due(what + ": read()", x.read(), -100 - place);
@@ -64,6 +67,10 @@ public final class FaultsTest {
         block("going, none of it", 3, 4, 0x20);
         block("going that goes on", 3, 6, 0x20, 1, 3);
         block("again, no r", 3, 4, 0x10);
+        tape("again, no r, a 0 behind the block", 3, 4, 48, 0, 4, 0x10, 0);
+        tape("going, a 0 behind the block", 3, 4, 48, 0, 4, 0x20, 0);
+        tape("made, a 0 behind the block", 3, 4, 48, 0, 4, 0x08, 0);
+        tape("bits, a 0 behind the block", 3, 4, 48, 0, 4, 0x81, 0);
         block("again, one short", 3, 8, 0x10, 2, 1, 2, 3);
         block("again, none of it", 3, 5, 0x10, 5);
         block("made, no bits", 3, 4, 0x08);
@@ -104,6 +111,38 @@ public final class FaultsTest {
         block("the leftmost of three", 5, 3, 0x05, 0x81, 0x40);
         block("the leftmost of two", 5, 4, 0x01, 0x81, 0x40);
         block("of the second record", 5, 6, 0x80, 1, 2, 4);
+        ReportBlocks x = Checks.usual();
+        x.category(7);
+        x.item(1, 2, 0, 1);
+        look(x, "place 1", 5, 3, 7, 0, 5, 0xC0, 1);
+        atTheTapesEnd();
+    }
+
+    // A block as long as the tape may be, that asks for a byte more.
+    private static void atTheTapesEnd() {
+        ReportBlocks x = new ReportBlocks();
+        x.category(9);
+        x.item(0, 1, 3, 0);
+        for (int part = 0; part < 14; part++) {
+            x.part(0, 1, part, 4);
+        }
+        x.item(0, 2, 0, 1);
+        x.item(0, 3, 1, 0);
+        x.item(0, 4, 2, 1);
+        int[] rest = new int[297];
+        for (int i = 0; i < 295; i += 59) {
+            rest[i] = 0x80;
+            rest[i + 1] = 255;
+            rest[i + 2] = 254;
+        }
+        int[][] last = {{0x40, 1}, {0x60, 1}, {0x20, 1}, {0x50, 1}, {0x10, 1}, {1, 1}, {0x80, 1}, {0x80, 0x80}};
+        for (int[] two : last) {
+            rest[295] = two[0];
+            rest[296] = two[1];
+            boolean whole = two[0] == 0x40;
+            c.due("at the tape's end", Checks.readBlock(x, 9, rest), whole ? 6 : -400);
+            c.due("its fault", x.fault(), whole ? 0 : 3);
+        }
     }
 
     private static void again() {
@@ -142,6 +181,12 @@ public final class FaultsTest {
         block("part 12", 5, 5, 0x08, 0x81, 4, 1, 2, 3, 4, 5);
         block("the leftmost of two", 5, 4, 0x08, 0x43, 0x80);
         block("of an item that has a part 8, 9", 5, 5, 0x08, 1, 0x60, 1, 2, 3);
+        ReportBlocks x = Checks.usual();
+        x.part(0, 5, 0, 0);
+        look(x, "part 0", 5, 4, 48, 0, 8, 0x08, 0xA0, 1, 2, 3);
+        ReportBlocks y = Checks.usual();
+        y.item(0, 6, 3, 0);
+        look(y, "an item without parts", 5, 4, 48, 0, 6, 4, 2, 1);
     }
 
     private static void ninthRecord() {

@@ -56,6 +56,14 @@ public final class TablesTest {
         c.due("a fourth that is there", x.category(62), BAD);
         c.due("a fourth of no number", x.category(256), BAD);
         c.due("count(0) full", x.count(0), 3);
+        c.due("item of a fourth", x.item(3, 1, 0, 1), BAD);
+        c.due("part of a fourth", x.part(3, 1, 0, 1), BAD);
+        c.due("tells of a fourth", x.tells(3, 1, 2), BAD);
+        c.due("table of a fourth", x.table(3, 1, 0), BAD);
+        c.due("begin of a fourth", x.begin(3), BAD);
+        c.due("item of the third", x.item(2, 1, 0, 1), NONE);
+        c.due("not of the second", x.table(1, 1, 0), NONE);
+        c.due("of the third", x.table(2, 1, 0), 0);
     }
 
     private static void items() {
@@ -200,6 +208,27 @@ public final class TablesTest {
         x.item(0, 2, 0, 4);
         Checks.readBlock(x, 48, 0xC0, 0, 9, 0, 1, 0, 2);
         c.due("it stays told", x.report(0), 0);
+        sameBytesOfAnotherKind();
+    }
+
+    // Items that have as many bytes as those told, but are not FIXED.
+    private static void sameBytesOfAnotherKind() {
+        ReportBlocks x = Checks.usual();
+        x.tells(0, 1, 2);
+        x.item(0, 2, 2, 3);
+        Checks.readBlock(x, 48, 0xC0, 0, 9, 1, 0, 1, 0);
+        c.due("an again of four bytes", x.report(0), NONE);
+        ReportBlocks y = Checks.usual();
+        y.tells(0, 1, 2);
+        y.item(0, 1, 1, 0);
+        Checks.readBlock(y, 48, 0xC0, 1, 2, 0, 1, 0, 2);
+        c.due("a going one of two bytes", y.report(0), NONE);
+        ReportBlocks z = Checks.usual();
+        z.tells(0, 1, 2);
+        z.item(0, 1, -1, 0);
+        Checks.readBlock(z, 48, 0x40, 0, 1, 0, 2);
+        c.due("none at all", z.report(0), NONE);
+        c.due("no track came", x.count(1) + y.count(1) + z.count(1), 0);
     }
 
     private static void table() {

@@ -164,7 +164,18 @@ public final class TracksTest {
         c.due("no third", x.track(2, 0), BAD);
         c.due("one comes at the end", report(x, 2, 9, 9), 2);
         trackIs("at the end", x, 2, 2, 9, 9, 0, 0, 0, 1);
-        c.due("all but one are dropped", x.tick(3), 2);
+        for (int number = 10; number < 19; number++) {
+            c.due("more come", report(x, number, number, -number), number - 7);
+        }
+        for (int number = 10; number < 19; number++) {
+            trackIs("more came", x, number - 7, number, number, -number, 0, 0, 0, 1);
+        }
+        x.tick(2);
+        c.due("one of these again", report(x, 2, 9, 9), 2);
+        c.due("the two are dropped", x.tick(1), 2);
+        trackIs("the first then", x, 0, 2, 9, 9, 0, 0, 1, 2);
+        trackIs("the last then", x, 9, 18, 18, -18, 0, 0, 3, 1);
+        c.due("all but one are dropped", x.tick(3), 9);
         c.due("which is left", x.track(0, 0), 2);
     }
 
