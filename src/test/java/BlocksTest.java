@@ -159,12 +159,18 @@ public final class BlocksTest {
         for (int[] b : bad) {
             c.due("has of bad numbers", x.has(b[0], b[1], b[2]), BAD);
         }
+        Checks.readBlock(x, 48, 1, 1, 2, 1, 1, 1, 2, 2, 1, 1, 2, 3, 1, 1, 2, 4, 1, 1, 2, 5, 1, 1, 2, 6,
+            1, 1, 2, 7, 0x81, 1, 2, 9, 9, 8);
+        c.due("the last place of the last record", x.has(7, 21, 1), 36);
+        c.due("its number", x.number(7, 21, 0), 8);
+        c.due("its first", x.number(7, 1, 0), 0x0909);
+        c.due("the last place of the one ahead", x.at(6, 21, 0), 7);
         x.tear();
         c.due("a shorter one", Checks.readBlock(x, 48, 0x80, 1, 2), 1);
-        c.due("items of earlier ones are gone", x.has(0, 3, 0), 0);
+        c.due("items of earlier ones are gone", x.has(0, 21, 0), 0);
         c.due("records of earlier ones are gone", x.has(1, 21, 0), BAD);
         Checks.readBlock(x, 48, 0x40, 1, 2, 3, 4);
-        c.due("items of the first one are gone", x.has(0, 3, 0), 0);
+        c.due("items of the first one are gone", x.has(0, 21, 0), 0);
         c.due("items of the second one are gone", x.has(0, 1, 1), NONE);
         Checks.readBlock(x, 48, 0x88, 1, 2, 0);
         c.due("items of a faulty one", x.has(0, 1, 0), 0);
