@@ -1,8 +1,17 @@
+import java.io.IOException;
+import java.nio.file.Files;
+import java.nio.file.Path;
+
 /** Counts the calls whose answer is not the one that is due, and ends the test. */
 final class Checks {
+    private static final Path DOCUMENT = Path.of("../shared/DOC.md");
+
     private final String name;
     private int wrong;
     private int checked;
+    private String sentence = "";
+    private int sentences;
+    private int checkedBefore;
 
     Checks(String name) {
         this.name = name;
@@ -13,13 +22,46 @@ final class Checks {
         if (got != want) {
             wrong++;
             if (wrong <= 40) {
-                System.out.println(name + ": " + call + " answered " + got + ", due is " + want);
+                System.out.println(name + ": " + call + " answered " + got + ", due is " + want + sentence);
             }
         }
     }
 
+    /** The answers looked at from here on are what this sentence of the document asks for. */
+    void sentence(String quoted) {
+        endSentence();
+        sentence = " (\"" + quoted + "\")";
+        sentences++;
+        if (!isInDocument(quoted)) {
+            System.out.println(name + ": the document no longer says" + sentence);
+        }
+    }
+
+    // A sentence that nothing is looked at for has no test.
+    private void endSentence() {
+        if (sentences != 0 && checked == checkedBefore) {
+            wrong++;
+            System.out.println(name + ": no answer is looked at" + sentence);
+        }
+        checkedBefore = checked;
+    }
+
+    private static boolean isInDocument(String quoted) {
+        try {
+            return !Files.exists(DOCUMENT) || plain(Files.readString(DOCUMENT)).contains(plain(quoted));
+        } catch (IOException e) {
+            return true;
+        }
+    }
+
+    private static String plain(String text) {
+        return text.replaceAll("[\\s`]+", " ").trim();
+    }
+
     void finish() {
-        System.out.println(name + ": " + checked + " answers looked at, " + wrong + " not as due");
+        endSentence();
+        String of = sentences == 0 ? "" : " of " + sentences + " sentences";
+        System.out.println(name + ": " + checked + " answers" + of + " looked at, " + wrong + " not as due");
         if (wrong != 0 || checked == 0) {
             System.exit(1);
         }
