@@ -6,6 +6,8 @@ import java.util.Map;
 public final class LongRunsTest {
     private static final int[] ODD = {Integer.MIN_VALUE, Integer.MAX_VALUE, -1, 0, 1, 2, 3, 7, 8, 9, 12, 14,
         15, 16, 20, 21, 22, 63, 255, 256, -9, 1 << 30, 1 << 16, -65536};
+    // Beyond that nothing is promised.
+    private static final int MOST_CALLS = 512;
     private static final Checks c = new Checks("LongRunsTest");
     private static int kindsOfFaults;
     private static long blocksRead;
@@ -20,11 +22,11 @@ public final class LongRunsTest {
     }
 
     public static void main(String[] args) {
-        for (int run = 1; run <= 1500; run++) {
+        for (int run = 1; run <= 5000; run++) {
             new LongRunsTest(run).run();
         }
         c.due("kinds of faults met, as bits", kindsOfFaults, 0x1FE);
-        c.due("many blocks are read", blocksRead > 10000 ? 1 : 0, 1);
+        c.due("many blocks are read", blocksRead > 30000 ? 1 : 0, 1);
         c.finish();
     }
 
@@ -47,10 +49,12 @@ public final class LongRunsTest {
         for (int i = 1 + any(3); i > 0; i--) {
             makeCategory();
         }
-        while (calls < 380) {
+        while (calls < 400) {
             step();
         }
-        lookAtAll();
+        while (calls < MOST_CALLS) {
+            lookAtAny();
+        }
         blocksRead += m.blocks;
     }
 
@@ -326,34 +330,36 @@ public final class LongRunsTest {
         due("track", x.track(record, i), m.track(record, i));
     }
 
-    // Beyond the 512th call nothing is promised; what is looked at here all runs as before.
-    private void lookAtAll() {
-        for (int what = 0; what < 7; what++) {
-            c.due("in the end: count " + what, x.count(what), m.count(what));
-        }
-        for (int place = 0; place < 13; place++) {
-            for (int what = 0; what < 7; what++) {
-                c.due("in the end: track", x.track(place, what), m.track(place, what));
+    private void lookAtAny() {
+        int what = any(7);
+        switch (any(6)) {
+            case 0 -> due("in the end: count " + what, x.count(what), m.count(what));
+            case 1 -> {
+                int place = any(m.trails.size() + 1);
+                due("in the end: track", x.track(place, what), m.track(place, what));
             }
-        }
-        for (int i = 0; i <= 300; i++) {
-            c.due("in the end: tape " + i, x.tape(i), m.tape(i));
-        }
-        for (int record = 0; record < m.reports.size(); record++) {
-            for (int place = 1; place <= 21; place++) {
-                c.due("in the end: where", x.has(record, place, 1), m.has(record, place, 1));
-                for (int i = 0; i < 14; i++) {
-                    c.due("in the end: number", x.number(record, place, i), m.number(record, place, i));
-                    c.due("in the end: at", x.at(record, place, i), m.at(record, place, i));
-                }
+            case 2 -> {
+                int i = any(any(3) == 0 ? 301 : m.tape.size() + 1);
+                due("in the end: tape " + i, x.tape(i), m.tape(i));
             }
-        }
-        for (int category = 0; category < 3; category++) {
-            for (int place = 1; place <= 21; place++) {
-                for (int what = 0; what < 16; what++) {
-                    c.due("in the end: table", x.table(category, place, what), m.table(category, place, what));
-                }
+            case 3 -> {
+                int category = any(3);
+                int place = 1 + any(21);
+                int of = any(16);
+                due("in the end: table", x.table(category, place, of), m.table(category, place, of));
             }
+            default -> lookAtARecord();
+        }
+    }
+
+    private void lookAtARecord() {
+        int record = any(m.reports.size() + 1);
+        int place = m.reports.isEmpty() ? 1 + any(21) : anyPlace(m.tables.get(m.blockCategory));
+        int i = any(14);
+        switch (any(4)) {
+            case 0 -> due("in the end: where", x.has(record, place, 1), m.has(record, place, 1));
+            case 1 -> due("in the end: at", x.at(record, place, i), m.at(record, place, i));
+            default -> due("in the end: number", x.number(record, place, i), m.number(record, place, i));
         }
     }
 }
