@@ -197,6 +197,7 @@ public final class EdgesOfFaultsTest {
         faultIs(x, 3, 6, 9, 0, 6, 0x20, 1, 2, 3, 4);
         faultIs(x, 3, 5, 9, 0, 5, 0x10, 0x80, 1, 2);
         faultIs(x, 3, 4, 9, 0, 4, 0x81, 0x80, 1, 2);
+        faultIs(x, 3, 4, 9, 0, 4, 0x20, 1, 1, 2, 3);
     }
 
     private static void lowestBitWithNoNext() {
@@ -347,6 +348,19 @@ public final class EdgesOfFaultsTest {
         faultInBlock(x, 4, 5, 0x10, 1, 0x41, 1, 2);
         faultInBlock(x, 4, 19, eightAnd(0));
         faultInBlock(x, 5, 19, eightAnd(0x08));
+        behindTheEndAndWrong(x);
+    }
+
+    // A byte that is not the block's own, and would be wrong if it were.
+    private static void behindTheEndAndWrong(ReportBlocks x) {
+        faultIs(x, 3, 4, 9, 0, 4, 0x81, 0);
+        faultIs(x, 3, 5, 9, 0, 5, 0x81, 0x81, 1);
+        faultIs(x, 3, 5, 9, 0, 5, 0x81, 0x81, 0x40);
+        faultIs(x, 3, 4, 9, 0, 4, 0x10, 0);
+        faultIs(x, 3, 5, 9, 0, 5, 0x10, 0x81, 0x81);
+        faultIs(x, 3, 4, 9, 0, 4, 0x20, 0);
+        faultIs(x, 3, 4, 9, 0, 4, 0x20, 6);
+        faultIs(x, 3, 9, 9, 0, 9, 0x40, 1, 1, 1, 1, 1, 1);
     }
 
     private static void allBitsOfARecord() {

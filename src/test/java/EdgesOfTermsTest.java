@@ -193,8 +193,13 @@ public final class EdgesOfTermsTest {
         ReportBlocks x = of(3, 0);
         x.part(0, 1, 0, 1);
         x.part(0, 1, 7, 1);
-        c.due("one byte of bits", Checks.readBlock(x, 9, 0x80, 0x80, 5), 1);
+        x.item(0, 2, 3, 0);
+        x.part(0, 2, 0, 1);
+        c.due("two bytes of bits, and no third", Checks.readBlock(x, 9, 0x80, 0x81, 0x80, 0x80, 0x80), 1);
+        c.due("one byte of bits, and no second", Checks.readBlock(x, 9, 0x80, 0x80, 0x80), 1);
         c.due("its bytes", x.has(0, 1, 0), 2);
+        c.due("part 7", x.number(0, 1, 7), NONE);
+        c.due("one byte of bits", Checks.readBlock(x, 9, 0x80, 0x80, 5), 1);
         c.due("part 0", x.number(0, 1, 0), 5);
         c.due("part 7", x.number(0, 1, 7), NONE);
         c.due("two bytes of bits", Checks.readBlock(x, 9, 0x80, 0x81, 0x80, 5, 6), 1);

@@ -323,8 +323,13 @@ public final class EdgesOfTracksTest {
         c.due("no fourth", x.track(3, 0), BAD);
         c.due("a new one", report(x, 3, 30, 3), 3);
         trackIs("it is new", x, 3, 3, 30, 3, 0, 0, 0, 1);
+        c.due("another", report(x, 1, 11, 1), 4);
+        trackIs("it is new, too", x, 4, 1, 11, 1, 0, 0, 0, 1);
+        trackIs("2 still", x, 0, 2, 20, -2, 0, 0, 3, 2);
+        trackIs("4 still", x, 1, 4, 40, -4, 0, 0, 3, 2);
+        trackIs("6 still", x, 2, 6, 60, -6, 0, 0, 3, 2);
         c.due("place of 6", report(x, 6, 60, -6), 2);
-        c.due("the last stays", x.tick(6), 4);
+        c.due("all are dropped", x.tick(6), 5);
     }
 
     private static void coasts() {
