@@ -443,6 +443,25 @@ public final class EdgesOfBlocksTest {
         Checks.readBlock(x, 9, 0x10, 1, 2, 0, 0, 0, 5);
         c.due("part 13 alone", x.number(0, 4, 13), 5);
         c.due("no part 0", x.number(0, 4, 0), NONE);
+        partsOfSeveralBytes();
+    }
+
+    private static void partsOfSeveralBytes() {
+        ReportBlocks x = of(3, 0);
+        int[] parts = {0, 5, 8, 13};
+        long[] numbers = {0xFFFFFFFFL, 0x800001, 0x0203, 4};
+        for (int i = 0; i < 4; i++) {
+            x.part(0, 1, parts[i], 4 - i);
+        }
+        Checks.readBlock(x, 9, 0x80, 0x85, 0x42, 255, 255, 255, 255, 128, 0, 1, 2, 3, 4);
+        for (int i = 0; i < 4; i++) {
+            c.due("of several, part " + parts[i], x.number(0, 1, parts[i]), numbers[i]);
+        }
+        Checks.readBlock(x, 9, 0x80, 5, 0x42, 128, 0, 1, 2, 3, 4);
+        c.due("without the first, part 0", x.number(0, 1, 0), NONE);
+        for (int i = 1; i < 4; i++) {
+            c.due("without the first, part " + parts[i], x.number(0, 1, parts[i]), numbers[i]);
+        }
     }
 
     private static void numberOfEightBytes() {

@@ -393,6 +393,8 @@ public final class EdgesOfTermsTest {
         c.due("of the latest", x.number(0, 2, 0), 5);
         c.due("none of the one before", x.has(0, 1, 0), 0);
         c.due("nor its second", x.has(1, 2, 0), BAD);
+        c.due("another one", Checks.readBlock(x, 9, 0x40, 5), 1);
+        c.due("none of the one before that", x.has(0, 1, 0), 0);
         faultIs("a fault", x, Checks.readBlock(x, 9, 0xC0, 6, 7, 0x20), 5, 6);
         c.due("the latest that was read", x.number(0, 2, 0), 5);
         c.due("one still", x.records(0), 1);

@@ -130,6 +130,27 @@ public final class EdgesOfWritingTest {
         c.due("an item anew", setTo(x, 3, 4), 1);
         c.due("in its stead", x.write(), 3 + 3 + 1 + 8 + 1 + 16 + 6 + 2);
         c.due("the new one", x.tape(15), 4);
+        setTheLongest();
+    }
+
+    private static void setTheLongest() {
+        ReportBlocks x = new ReportBlocks();
+        x.category(9);
+        x.item(0, 21, 3, 0);
+        for (int part = 0; part < 14; part++) {
+            x.part(0, 21, part, 4);
+        }
+        x.begin(0);
+        int[] item = new int[58];
+        item[0] = 255;
+        item[1] = 254;
+        item[57] = 99;
+        c.due("one byte less", setTo(x, 21, Arrays.copyOf(item, 57)), BAD);
+        c.due("the longest of all", setTo(x, 21, item), 58);
+        c.due("its block", x.write(), 6 + 58);
+        c.due("its last byte", x.tape(63), 99);
+        c.due("read()", x.read(), 1);
+        c.due("its last part", x.number(0, 21, 13), 99);
     }
 
     private static void setAtNoPlace() {
